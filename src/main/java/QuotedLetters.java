@@ -1152,7 +1152,6 @@ public final class QuotedLetters {
 
         void start() {
             pieces = 0;
-            rowLength = 0;
         }
 
         void addPiece() {

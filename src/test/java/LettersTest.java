@@ -112,12 +112,14 @@ public final class LettersTest {
         for (int depth = 0; depth <= 5; depth++) {
             Due.tell(q, 0, depth, depth + 1);
         }
+        due.is("parent of none", q.about(0, 9), 0);
         due.is("answer by 10", q.answer(0, 10, 0), Due.OUTSIDE);
         due.is("answer by -1", q.answer(0, -1, 0), Due.OUTSIDE);
         due.is("answer of day 10000", q.answer(0, 0, 10000), Due.OUTSIDE);
         q.word(50);
         due.is("answer", q.answer(0, 3, Due.NONE), 1);
         due.is("answer leaves the draft", q.count(2), 1);
+        due.is("parent of the answer", q.about(0, 9), 1);
         due.is("answer's writer", q.about(1, 0), 3);
         due.is("answer's day", q.about(1, 1), Due.NONE);
         due.is("answer names", q.about(1, 2), 0);
@@ -310,6 +312,7 @@ public final class LettersTest {
         due.is("a parent may have a greater number", q.about(0, 6), 1);
         due.is("order(0)", q.order(0), 1);
         due.is("order(1)", q.order(1), 0);
+        due.is("1 is parent of 0", q.about(1, 9), 1);
         q.known(1);
         due.is("as known by 1", q.about(0, 6), Due.NONE);
     }
@@ -393,6 +396,9 @@ public final class LettersTest {
         due.is("of another depth", q.fit(1, 0), 3);
         Due.tell(q, 0, 1, 3);
         due.is("depth 2 and 1", q.fit(1, 0), 4);
+        Due.tell(q, 0, 1, 4);
+        Due.tell(q, 1, 2, 4);
+        due.is("a line more of x", q.fit(1, 0), 5);
         due.is("itself", q.fit(0, 0), Due.NOT);
         due.is("unknown", q.fit(0, 2), Due.UNKNOWN);
         due.is("unknown", q.fit(-1, -1), Due.UNKNOWN);
@@ -404,7 +410,7 @@ public final class LettersTest {
         q.known(1);
         due.is("not known", q.fit(0, 1), Due.NOT);
         q.known(2);
-        due.is("seen again", q.fit(1, 0), 4);
+        due.is("seen again", q.fit(1, 0), 5);
     }
 
     private static void fitsWithNear() {

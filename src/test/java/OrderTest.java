@@ -78,5 +78,11 @@ public final class OrderTest {
         due.is("unknown", q.span(-1, 0), Due.UNKNOWN);
         q.take(3);
         due.is("the way is cut", q.span(4, 0), 0);
+        q = new QuotedLetters();
+        q.letter(0, 15, Due.NONE);
+        Due.tell(q, 0, 1, 1);
+        q.letter(0, Due.NONE, Due.NONE);
+        Due.tell(q, 1, 0, 1);
+        due.is("below it one told ahead of it", q.span(1, 1), 15);
     }
 }

@@ -11,6 +11,7 @@ public final class QuotesTest {
         piecesThemselves();
         rows();
         rowOfFourLongPieces();
+        rowsOneAfterTheOther();
         firstByTexts();
         emptyTexts();
         largeGroups();
@@ -89,6 +90,14 @@ public final class QuotesTest {
         due.is("not seen", q.altered(2, 0), Due.NOT);
         due.is("unknown ahead of not", q.altered(2, -1), Due.UNKNOWN);
         due.is("count(4)", q.count(4), 0);
+        q = new QuotedLetters();
+        Due.rules(q, "near 2;");
+        q.letter(0, Due.NONE, Due.NONE);
+        Due.tell(q, 0, 1, 1, 2, 3);
+        q.letter(0, Due.NONE, Due.NONE);
+        Due.tell(q, 1, 0, 1, 3, 4);
+        due.is("the first letter's line, held to a later one's", q.altered(0, 0), 1);
+        due.is("count(4)", q.count(4), 1);
     }
 
     private static void echoesOfLines() {
@@ -216,6 +225,22 @@ public final class QuotesTest {
         q.put(3);
         due.is("length of four again", q.lost(0, 2), 53);
         due.is("its first text", q.lostWord(0, 0, 0), 1);
+    }
+
+    private static void rowsOneAfterTheOther() {
+        QuotedLetters q = new QuotedLetters();
+        pieces(q, new int[] {1, 2, 3}, new int[] {2, 3, 4}, new int[] {8, 7, 6}, new int[] {7, 6, 5});
+        rowIs("first group", q, 1, 2, 3, 4);
+        due.is("second group", q.lost(1, 2), 4);
+        int[] row = {8, 7, 6, 5};
+        for (int i = 0; i < row.length; i++) {
+            due.is("second group: text " + i, q.lostWord(1, i, 0), row[i]);
+        }
+        rowIs("first group again", q, 1, 2, 3, 4);
+        Due.tell(q, 1, 1, 1);
+        rowIs("first group, a line more", q, 1, 2, 3, 4, 1);
+        pieces(q, new int[] {4, 1, 1});
+        rowIs("first group, a piece more", q, 1, 2, 3, 4, 1, 1);
     }
 
     private static void firstByTexts() {

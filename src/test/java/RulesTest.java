@@ -85,6 +85,8 @@ public final class RulesTest {
         bad("near 1,", 1, 6);
         bad("nea r 1;", 1, 0);
         bad("nearer 1;", 1, 0);
+        bad("nearz 1;", 1, 0);
+        bad("neara 1;", 1, 0);
         bad("  nea", 1, 2);
         bad("Near 1;", 1, 0);
         bad("neAr 1;", 1, 0);

@@ -10,6 +10,7 @@ public final class SeekTest {
         stillNeedsTheSameText();
         stillAsItWouldBe();
         stillAsKnown();
+        stillOfTwo();
         due.end();
     }
 
@@ -150,6 +151,24 @@ public final class SeekTest {
         q.take(1);
         due.is("0 would stay the parent", q.still(1), 0);
         due.is("of this too", q.origin(2, 0, 0), 0);
+    }
+
+    private static void stillOfTwo() {
+        QuotedLetters q = new QuotedLetters();
+        q.letter(0, 1, Due.NONE);
+        Due.tell(q, 0, 0, 1);
+        q.letter(1, 1, Due.NONE);
+        Due.tell(q, 1, 0, 2);
+        Due.tell(q, 1, 0, 3);
+        q.letter(2, 2, 0);
+        Due.tell(q, 2, 1, 1);
+        q.letter(3, 2, 1);
+        Due.tell(q, 3, 1, 3);
+        q.take(0);
+        q.take(1);
+        due.is("of the one", q.still(0), 1);
+        due.is("of the other", q.still(1), 2);
+        due.is("of the one again", q.still(0), 1);
     }
 
     private static void stillAsKnown() {
