@@ -3,16 +3,22 @@ final class Due {
     static final int NONE = -1, UNKNOWN = -1001, OUTSIDE = -1002, NOT = -1003, FULL = -1004, LARGE = -1005;
     static final int MIN = Integer.MIN_VALUE, MAX = Integer.MAX_VALUE;
     private final String test;
+    private String sentence = "";
     private int wrong;
 
     Due(String test) {
         this.test = test;
     }
 
+    /** The words of the document that the answers behind this hold to. */
+    void sentence(String words) {
+        sentence = " [" + words + "]";
+    }
+
     void is(String call, int got, int want) {
         if (got != want) {
             wrong++;
-            System.out.println(test + ": " + call + " answered " + got + ", due is " + want);
+            System.out.println(test + sentence + ": " + call + " answered " + got + ", due is " + want);
         }
     }
 
@@ -27,45 +33,38 @@ final class Due {
         }
     }
 
-    static int tell(QuotedLetters q, int x, int depth, int... words) {
+    static int tell(Counted q, int x, int depth, int... words) {
         for (int w : words) {
             q.word(w);
         }
         return q.line(x, depth);
     }
 
-    static void feed(QuotedLetters q, String text) {
-        for (int k = 0; k < text.length(); k++) {
-            q.feed(1, text.charAt(k));
+    /** A letter of no day that names none, with a line of one word for each of these. */
+    static int letterOf(Counted q, int depth, int... words) {
+        int x = q.letter(0, NONE, NONE);
+        for (int w : words) {
+            tell(q, x, depth, w);
         }
+        return x;
     }
 
-    static int rules(QuotedLetters q, String text) {
+    /** By eights, as calls are dear; the last answer. */
+    static int feed(Counted q, String text) {
+        int answer = 0;
+        for (int at = 0; at < text.length(); at += 8) {
+            int n = Math.min(8, text.length() - at);
+            long bytes = 0;
+            for (int k = at; k < at + n; k++) {
+                bytes = bytes << 8 | text.charAt(k);
+            }
+            answer = q.feed(n, bytes);
+        }
+        return answer;
+    }
+
+    static int rules(Counted q, String text) {
         feed(q, text);
         return q.read();
-    }
-
-    /** A line of many words, to tell objects that should be the same from such as are not. */
-    static String stateOf(QuotedLetters q) {
-        StringBuilder state = new StringBuilder();
-        for (int what = 0; what <= 10; what++) {
-            state.append(q.count(what)).append(' ');
-        }
-        for (int what = 0; what <= 4; what++) {
-            state.append(q.rule(what)).append(' ');
-        }
-        state.append(q.fault()).append(' ').append(q.seek(NONE, 0, NONE)).append('\n');
-        for (int x = 0; x < q.count(0); x++) {
-            for (int what = 0; what <= 11; what++) {
-                state.append(q.about(x, what)).append(' ');
-            }
-            for (int line = 0; line < q.about(x, 3); line++) {
-                for (int what = 0; what <= 9; what++) {
-                    state.append(q.told(x, line, what)).append(' ');
-                }
-                state.append(q.origin(x, line, 0)).append(q.altered(x, line)).append('\n');
-            }
-        }
-        return state.toString();
     }
 }

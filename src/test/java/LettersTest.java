@@ -21,12 +21,11 @@ public final class LettersTest {
         fits();
         fitsWithNear();
         counts();
-        refusedChangesNothing();
         due.end();
     }
 
     private static void newObject() {
-        QuotedLetters q = new QuotedLetters();
+        Counted q = new Counted();
         int[] counts = {0, 0, 0, 0, 0, 0, 0, 0, 0, 0, Due.NONE};
         for (int what = 0; what < counts.length; what++) {
             due.is("new: count(" + what + ")", q.count(what), counts[what]);
@@ -39,13 +38,13 @@ public final class LettersTest {
         due.is("new: order(0)", q.order(0), Due.NONE);
         due.is("new: about(0, 0)", q.about(0, 0), Due.UNKNOWN);
         due.is("new: about(-1, 99)", q.about(-1, 99), Due.UNKNOWN);
-        QuotedLetters other = new QuotedLetters();
+        Counted other = new Counted();
         other.letter(0, 0, Due.NONE);
         due.is("new: objects share nothing", q.count(0), 0);
     }
 
     private static void words() {
-        QuotedLetters q = new QuotedLetters();
+        Counted q = new Counted();
         for (int w : new int[] {0, -1, 64, Due.MIN, Due.MAX}) {
             due.is("word(" + w + ")", q.word(w), Due.OUTSIDE);
         }
@@ -58,7 +57,7 @@ public final class LettersTest {
     }
 
     private static void lettersTold() {
-        QuotedLetters q = new QuotedLetters();
+        Counted q = new Counted();
         due.is("letter naming itself", q.letter(0, 0, 0), Due.UNKNOWN);
         due.is("letter naming -2", q.letter(0, 0, -2), Due.UNKNOWN);
         due.is("letter unknown ahead of outside", q.letter(10, 10000, 0), Due.UNKNOWN);
@@ -82,7 +81,7 @@ public final class LettersTest {
     }
 
     private static void linesTold() {
-        QuotedLetters q = new QuotedLetters();
+        Counted q = new Counted();
         q.word(7);
         due.is("line of no letter", q.line(0, 0), Due.UNKNOWN);
         due.is("line unknown ahead of outside", q.line(-1, 6), Due.UNKNOWN);
@@ -106,7 +105,7 @@ public final class LettersTest {
     }
 
     private static void answers() {
-        QuotedLetters q = new QuotedLetters();
+        Counted q = new Counted();
         due.is("answer to none", q.answer(0, 10, 0), Due.UNKNOWN);
         q.letter(0, 5, Due.NONE);
         for (int depth = 0; depth <= 5; depth++) {
@@ -147,7 +146,7 @@ public final class LettersTest {
     }
 
     private static void takenAndPut() {
-        QuotedLetters q = new QuotedLetters();
+        Counted q = new Counted();
         due.is("take none", q.take(0), Due.UNKNOWN);
         due.is("put none", q.put(0), Due.UNKNOWN);
         q.letter(0, 0, Due.NONE);
@@ -166,7 +165,7 @@ public final class LettersTest {
     }
 
     private static void knownOnes() {
-        QuotedLetters q = new QuotedLetters();
+        Counted q = new Counted();
         due.is("known(1) of none", q.known(1), Due.OUTSIDE);
         due.is("known(0) of none", q.known(0), 0);
         due.is("letter", q.letter(0, 0, Due.NONE), 0);
@@ -192,7 +191,7 @@ public final class LettersTest {
     }
 
     private static void plainAbout() {
-        QuotedLetters q = new QuotedLetters();
+        Counted q = new Counted();
         q.letter(4, 77, Due.NONE);
         q.letter(5, Due.NONE, 0);
         Due.tell(q, 1, 0, 1);
@@ -216,7 +215,7 @@ public final class LettersTest {
     }
 
     private static void parentsByName() {
-        QuotedLetters q = new QuotedLetters();
+        Counted q = new Counted();
         q.letter(0, 100, Due.NONE);
         Due.tell(q, 0, 0, 1);
         q.letter(1, 90, Due.NONE);
@@ -238,7 +237,7 @@ public final class LettersTest {
     }
 
     private static void parentsByFit() {
-        QuotedLetters q = new QuotedLetters();
+        Counted q = new Counted();
         q.letter(0, 10, Due.NONE);
         Due.tell(q, 0, 0, 1);
         q.letter(1, 10, Due.NONE);
@@ -279,7 +278,7 @@ public final class LettersTest {
     }
 
     private static void parentsWithoutLoops() {
-        QuotedLetters q = new QuotedLetters();
+        Counted q = new Counted();
         q.letter(0, Due.NONE, Due.NONE);
         q.letter(1, Due.NONE, 0);
         Due.tell(q, 0, 1, 1);
@@ -304,7 +303,7 @@ public final class LettersTest {
     }
 
     private static void parentsOfLaterNumber() {
-        QuotedLetters q = new QuotedLetters();
+        Counted q = new Counted();
         q.letter(0, 9, Due.NONE);
         Due.tell(q, 0, 1, 5, 5);
         q.letter(1, 8, Due.NONE);
@@ -318,7 +317,7 @@ public final class LettersTest {
     }
 
     private static void threads() {
-        QuotedLetters q = new QuotedLetters();
+        Counted q = new Counted();
         q.letter(0, Due.NONE, Due.NONE);
         q.letter(0, Due.NONE, 0);
         q.letter(0, Due.NONE, 1);
@@ -337,7 +336,7 @@ public final class LettersTest {
     }
 
     private static void toldWords() {
-        QuotedLetters q = new QuotedLetters();
+        Counted q = new Counted();
         q.letter(0, 0, Due.NONE);
         Due.tell(q, 0, 2, 63, 1, 62);
         int[] answers = {2, 3, 63, 1, 62, -1, -1, -1, -1, -1};
@@ -356,7 +355,7 @@ public final class LettersTest {
     }
 
     private static void differing() {
-        QuotedLetters q = new QuotedLetters();
+        Counted q = new Counted();
         q.letter(0, 0, Due.NONE);
         q.letter(0, 0, Due.NONE);
         Due.tell(q, 0, 0, 1, 2, 3, 4, 5, 6, 7, 8);
@@ -379,7 +378,7 @@ public final class LettersTest {
     }
 
     private static void fits() {
-        QuotedLetters q = new QuotedLetters();
+        Counted q = new Counted();
         q.letter(0, 0, Due.NONE);
         q.letter(0, 0, Due.NONE);
         for (int w : new int[] {1, 2, 3, 1}) {
@@ -414,7 +413,7 @@ public final class LettersTest {
     }
 
     private static void fitsWithNear() {
-        QuotedLetters q = new QuotedLetters();
+        Counted q = new Counted();
         q.letter(0, 0, Due.NONE);
         Due.tell(q, 0, 0, 1, 2, 3, 4);
         Due.tell(q, 0, 0, 5, 6);
@@ -433,7 +432,7 @@ public final class LettersTest {
     }
 
     private static void counts() {
-        QuotedLetters q = new QuotedLetters();
+        Counted q = new Counted();
         q.letter(0, 20, Due.NONE);
         Due.tell(q, 0, 0, 1, 2);
         q.letter(1, 10, 0);
@@ -460,34 +459,5 @@ public final class LettersTest {
         due.is("count(-1)", q.count(-1), Due.OUTSIDE);
         due.is("count(11)", q.count(11), Due.OUTSIDE);
         due.is("count(MAX)", q.count(Due.MAX), Due.OUTSIDE);
-    }
-
-    private static void refusedChangesNothing() {
-        QuotedLetters q = new QuotedLetters();
-        q.letter(0, 20, Due.NONE);
-        for (int l = 0; l < 14; l++) {
-            Due.tell(q, 0, l % 3, 1 + l);
-        }
-        q.letter(1, Due.NONE, 0);
-        q.take(1);
-        for (int k = 0; k < 8; k++) {
-            q.word(1 + k);
-        }
-        for (int k = 0; k < 4; k++) {
-            q.sign(0);
-        }
-        Due.feed(q, " ".repeat(113));
-        String before = Due.stateOf(q);
-        int refused = 0;
-        int[] answers = {q.word(64), q.word(1), q.letter(0, 0, 2), q.letter(0, -2, 0), q.letter(-1, 0, 0),
-            q.line(2, 0), q.line(0, 9), q.line(0, 1), q.answer(5, 0, 0), q.answer(0, 10, 0), q.answer(0, 0, 10000),
-            q.take(2), q.take(1), q.put(0), q.put(-1), q.known(3), q.known(-2), q.sign(-1), q.sign(1),
-            q.feed(0, 59), q.feed(9, 59), q.feed(8, 59), q.still(0), q.lost(9, 0), q.seek(10, 0, 0)};
-        for (int answer : answers) {
-            refused += answer < -1000 ? 1 : 0;
-        }
-        due.is("all are refused", refused, answers.length);
-        due.holds("nothing is changed", Due.stateOf(q).equals(before));
-        due.is("seven bytes still come behind", q.feed(7, 0x20202020202020L), 120);
     }
 }

@@ -1,6 +1,7 @@
 import java.lang.reflect.InvocationTargetException;
 import java.lang.reflect.Method;
 import java.lang.reflect.Modifier;
+import java.util.function.Supplier;
 
 /** Objects that are full, and numbers at and behind every bound: each call answers, none throws. */
 public final class LimitsTest {
@@ -12,14 +13,14 @@ public final class LimitsTest {
         fullHeap();
         deepestQuote();
         fullText();
-        sweep("empty", new QuotedLetters());
-        sweep("full", full());
+        sweep("empty", Counted::new);
+        sweep("full", LimitsTest::full);
         due.end();
     }
 
     /** 40 letters of 14 lines of 8 words; all but the first quote the first. */
-    private static QuotedLetters full() {
-        QuotedLetters q = new QuotedLetters();
+    private static Counted full() {
+        Counted q = new Counted();
         q.letter(0, 5, Due.NONE);
         for (int l = 0; l < 14; l++) {
             Due.tell(q, 0, 0, 1 + l, 2 + l, 3 + l, 4 + l, 5 + l, 6 + l, 7 + l, 50 + l);
@@ -31,7 +32,7 @@ public final class LimitsTest {
     }
 
     private static void fullHeap() {
-        QuotedLetters q = full();
+        Counted q = full();
         due.is("lines of the last", q.about(39, 3), 14);
         due.is("parent of the last", q.about(39, 6), 0);
         due.is("fit of it", q.about(39, 11), 14);
@@ -67,7 +68,7 @@ public final class LimitsTest {
     }
 
     private static void deepestQuote() {
-        QuotedLetters q = new QuotedLetters();
+        Counted q = new Counted();
         q.letter(4, Due.NONE, Due.NONE);
         Due.tell(q, 0, 0, 9);
         for (int x = 0; x < 6; x++) {
@@ -81,7 +82,7 @@ public final class LimitsTest {
     }
 
     private static void fullText() {
-        QuotedLetters q = new QuotedLetters();
+        Counted q = new Counted();
         due.is("letters alone", Due.rules(q, "a".repeat(120)), -11);
         due.is("at", q.fault(), 0);
         due.is("figures alone", Due.rules(q, "fit " + "1".repeat(116)), -12);
@@ -95,22 +96,27 @@ public final class LimitsTest {
     }
 
     /** Arguments at all bounds, in all pairs with one another. */
-    private static void sweep(String name, QuotedLetters q) throws ReflectiveOperationException {
-        for (Method method : QuotedLetters.class.getDeclaredMethods()) {
-            if (!Modifier.isPublic(method.getModifiers())) {
+    private static void sweep(String name, Supplier<Counted> made) throws ReflectiveOperationException {
+        Counted q = made.get();
+        for (Method call : QuotedLetters.class.getDeclaredMethods()) {
+            if (!Modifier.isPublic(call.getModifiers())) {
                 continue;
             }
+            Method method = Counted.class.getDeclaredMethod(call.getName(), call.getParameterTypes());
             int combinations = 1;
             for (int p = 0; p < method.getParameterCount(); p++) {
                 combinations *= NUMBERS.length;
             }
             for (int c = 0; c < combinations; c += combinations > 100_000 ? 7 : 1) {
+                if (q.calls() == Counted.MOST_CALLS) {
+                    q = made.get();
+                }
                 callWith(name, q, method, c);
             }
         }
     }
 
-    private static void callWith(String name, QuotedLetters q, Method method, int combination)
+    private static void callWith(String name, Counted q, Method method, int combination)
             throws IllegalAccessException {
         Class<?>[] types = method.getParameterTypes();
         Object[] arguments = new Object[types.length];

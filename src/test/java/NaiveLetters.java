@@ -43,6 +43,10 @@ final class NaiveLetters {
 
     // ---- helpers
 
+    int letterCount() {
+        return letters.size();
+    }
+
     private boolean letterIs(int x) {
         return 0 <= x && x < letters.size();
     }

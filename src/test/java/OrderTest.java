@@ -10,7 +10,7 @@ public final class OrderTest {
     }
 
     private static void orders() {
-        QuotedLetters q = new QuotedLetters();
+        Counted q = new Counted();
         q.letter(0, Due.NONE, Due.NONE);
         Due.tell(q, 0, 1, 1);
         q.letter(0, Due.NONE, Due.NONE);
@@ -33,7 +33,7 @@ public final class OrderTest {
     }
 
     private static void quarrels() {
-        QuotedLetters q = new QuotedLetters();
+        Counted q = new Counted();
         q.letter(0, 50, Due.NONE);
         q.letter(0, 49, 0);
         q.letter(0, 50, 0);
@@ -53,7 +53,7 @@ public final class OrderTest {
     }
 
     private static void spans() {
-        QuotedLetters q = new QuotedLetters();
+        Counted q = new Counted();
         q.letter(0, Due.NONE, Due.NONE);
         q.letter(0, 70, 0);
         q.letter(0, 30, 1);
@@ -78,7 +78,7 @@ public final class OrderTest {
         due.is("unknown", q.span(-1, 0), Due.UNKNOWN);
         q.take(3);
         due.is("the way is cut", q.span(4, 0), 0);
-        q = new QuotedLetters();
+        q = new Counted();
         q.letter(0, 15, Due.NONE);
         Due.tell(q, 0, 1, 1);
         q.letter(0, Due.NONE, Due.NONE);

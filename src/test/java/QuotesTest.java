@@ -19,8 +19,8 @@ public final class QuotesTest {
         due.end();
     }
 
-    private static QuotedLetters chain() {
-        QuotedLetters q = new QuotedLetters();
+    private static Counted chain() {
+        Counted q = new Counted();
         q.letter(7, 1, Due.NONE);
         Due.tell(q, 0, 0, 1, 2, 3);
         Due.tell(q, 0, 0, 4, 5, 6);
@@ -37,7 +37,7 @@ public final class QuotesTest {
     }
 
     private static void origins() {
-        QuotedLetters q = chain();
+        Counted q = chain();
         due.is("own", q.origin(0, 1, 0), 0);
         due.is("own line", q.origin(0, 1, 1), 1);
         due.is("own writer", q.origin(0, 1, 2), 7);
@@ -56,7 +56,7 @@ public final class QuotesTest {
     }
 
     private static void sameTextAheadOfLike() {
-        QuotedLetters q = new QuotedLetters();
+        Counted q = new Counted();
         Due.rules(q, "near 2;");
         q.letter(0, 1, Due.NONE);
         Due.tell(q, 0, 0, 1, 2);
@@ -72,7 +72,7 @@ public final class QuotesTest {
     }
 
     private static void alteredOnes() {
-        QuotedLetters q = chain();
+        Counted q = chain();
         Due.tell(q, 2, 2, 20, 21, 23);
         Due.tell(q, 2, 1, 7, 7);
         Due.tell(q, 2, 1, 8, 8);
@@ -90,7 +90,7 @@ public final class QuotesTest {
         due.is("not seen", q.altered(2, 0), Due.NOT);
         due.is("unknown ahead of not", q.altered(2, -1), Due.UNKNOWN);
         due.is("count(4)", q.count(4), 0);
-        q = new QuotedLetters();
+        q = new Counted();
         Due.rules(q, "near 2;");
         q.letter(0, Due.NONE, Due.NONE);
         Due.tell(q, 0, 1, 1, 2, 3);
@@ -101,7 +101,7 @@ public final class QuotesTest {
     }
 
     private static void echoesOfLines() {
-        QuotedLetters q = chain();
+        Counted q = chain();
         due.is("itself and two", q.echoes(0, 1), 3);
         due.is("itself alone", q.echoes(0, 0), 1);
         due.is("a quoted line is no origin", q.echoes(1, 0), 0);
@@ -114,7 +114,7 @@ public final class QuotesTest {
     }
 
     private static void groupsOfPieces() {
-        QuotedLetters q = new QuotedLetters();
+        Counted q = new Counted();
         for (int x = 0; x < 6; x++) {
             q.letter(0, Due.NONE, Due.NONE);
         }
@@ -141,7 +141,7 @@ public final class QuotesTest {
     }
 
     private static void piecesThemselves() {
-        QuotedLetters q = new QuotedLetters();
+        Counted q = new Counted();
         q.letter(0, Due.NONE, Due.NONE);
         Due.tell(q, 0, 0, 1);
         q.letter(1, Due.NONE, 0);
@@ -160,7 +160,7 @@ public final class QuotesTest {
         due.is("one text twice in a piece", q.lost(0, 2), 3);
     }
 
-    private static void pieces(QuotedLetters q, int[]... pieces) {
+    private static void pieces(Counted q, int[]... pieces) {
         for (int[] piece : pieces) {
             int x = q.letter(0, Due.NONE, Due.NONE);
             for (int w : piece) {
@@ -169,7 +169,7 @@ public final class QuotesTest {
         }
     }
 
-    private static void rowIs(String name, QuotedLetters q, int... row) {
+    private static void rowIs(String name, Counted q, int... row) {
         due.is(name + ": length", q.lost(0, 2), row.length);
         for (int i = 0; i < row.length; i++) {
             due.is(name + ": text " + i, q.lostWord(0, i, 0), row[i]);
@@ -181,32 +181,32 @@ public final class QuotesTest {
     }
 
     private static void rows() {
-        QuotedLetters q = new QuotedLetters();
+        Counted q = new Counted();
         pieces(q, new int[] {2, 1, 3}, new int[] {1, 2, 3});
         rowIs("two", q, 1, 2, 1, 3);
-        q = new QuotedLetters();
+        q = new Counted();
         pieces(q, new int[] {5, 1}, new int[] {1, 5});
         rowIs("either way", q, 1, 5, 1);
-        q = new QuotedLetters();
+        q = new Counted();
         pieces(q, new int[] {1, 2, 3}, new int[] {2, 3}, new int[] {1, 2, 3}, new int[] {1, 3});
         rowIs("one within another", q, 1, 2, 3);
-        q = new QuotedLetters();
+        q = new Counted();
         pieces(q, new int[] {9, 1}, new int[] {9, 2}, new int[] {9, 3}, new int[] {9, 4});
         rowIs("four", q, 9, 1, 2, 3, 4);
-        q = new QuotedLetters();
+        q = new Counted();
         pieces(q, new int[] {1, 9}, new int[] {2, 9}, new int[] {3, 9, 3});
         rowIs("three", q, 1, 2, 3, 9, 3);
         due.is("a shortest row is not the least from its first text on", shorterThanGreedy(), 5);
     }
 
     private static int shorterThanGreedy() {
-        QuotedLetters q = new QuotedLetters();
+        Counted q = new Counted();
         pieces(q, new int[] {2, 3, 4, 5}, new int[] {1, 2, 3, 4}, new int[] {2, 5});
         return q.lost(0, 2);
     }
 
     private static void rowOfFourLongPieces() {
-        QuotedLetters q = new QuotedLetters();
+        Counted q = new Counted();
         for (int x = 0; x < 4; x++) {
             q.letter(x, Due.NONE, Due.NONE);
             for (int l = 0; l < 13; l++) {
@@ -228,7 +228,7 @@ public final class QuotesTest {
     }
 
     private static void rowsOneAfterTheOther() {
-        QuotedLetters q = new QuotedLetters();
+        Counted q = new Counted();
         pieces(q, new int[] {1, 2, 3}, new int[] {2, 3, 4}, new int[] {8, 7, 6}, new int[] {7, 6, 5});
         rowIs("first group", q, 1, 2, 3, 4);
         due.is("second group", q.lost(1, 2), 4);
@@ -244,7 +244,7 @@ public final class QuotesTest {
     }
 
     private static void firstByTexts() {
-        QuotedLetters q = new QuotedLetters();
+        Counted q = new Counted();
         int[][][] pieces = {{{9}, {5, 6}}, {{9}, {5}}, {{9}, {5, 5, 9}}, {{9}, {}}};
         for (int[][] piece : pieces) {
             int x = q.letter(0, Due.NONE, Due.NONE);
@@ -266,7 +266,7 @@ public final class QuotesTest {
     }
 
     private static void emptyTexts() {
-        QuotedLetters q = new QuotedLetters();
+        Counted q = new Counted();
         q.letter(0, Due.NONE, Due.NONE);
         Due.tell(q, 0, 1);
         q.letter(0, Due.NONE, Due.NONE);
@@ -278,7 +278,7 @@ public final class QuotesTest {
     }
 
     private static void largeGroups() {
-        QuotedLetters q = new QuotedLetters();
+        Counted q = new Counted();
         for (int x = 0; x < 5; x++) {
             pieces(q, new int[] {1, 2 + x});
         }
@@ -296,7 +296,7 @@ public final class QuotesTest {
     }
 
     private static void refusals() {
-        QuotedLetters q = new QuotedLetters();
+        Counted q = new Counted();
         due.is("no group", q.lost(0, 0), Due.UNKNOWN);
         due.is("no group", q.lost(0, 9), Due.UNKNOWN);
         due.is("no group", q.lostWord(0, 0, 0), Due.UNKNOWN);

@@ -4,8 +4,8 @@ import java.util.Random;
 
 /** Runs of calls, drawn from fixed seeds, whose every answer must be that of NaiveLetters. */
 public final class RandomRunsTest {
-    private static final int CALLS = 512;
-    private final QuotedLetters real = new QuotedLetters();
+    private static final int LAST_BUILDING_CALL = 440;
+    private final Counted real = new Counted();
     private final NaiveLetters naive = new NaiveLetters();
     private final Random random;
     private final List<String> calls = new ArrayList<>();
@@ -39,8 +39,9 @@ public final class RandomRunsTest {
     }
 
     private boolean goesWell() {
-        while (calls.size() < CALLS && !wrong) {
-            if (random.nextInt(100) < 45) {
+        // an ask makes two calls at most, what is built some seventy
+        while (real.calls() < Counted.MOST_CALLS - 1 && !wrong) {
+            if (real.calls() < LAST_BUILDING_CALL && random.nextInt(100) < 45) {
                 build();
             } else {
                 ask();
@@ -74,11 +75,11 @@ public final class RandomRunsTest {
     }
 
     private int letterNumber() {
-        return near(real.count(0));
+        return near(naive.letterCount());
     }
 
     private int lineNumber(int x) {
-        int lines = real.about(x, 3);
+        int lines = naive.about(x, 3);
         return near(Math.max(1, lines));
     }
 
@@ -90,7 +91,7 @@ public final class RandomRunsTest {
         switch (random.nextInt(12)) {
             case 0:
             case 1:
-                if (real.count(0) < mostLetters || random.nextInt(20) == 0) {
+                if (naive.letterCount() < mostLetters || random.nextInt(20) == 0) {
                     tellLetter();
                 }
                 break;
@@ -102,7 +103,7 @@ public final class RandomRunsTest {
                 tellLine();
                 break;
             case 7:
-                if (real.count(0) < mostLetters) {
+                if (naive.letterCount() < mostLetters) {
                     int x = letterNumber();
                     int writer = near(10);
                     int day = day();
@@ -119,7 +120,7 @@ public final class RandomRunsTest {
                 due("put(" + p + ")", real.put(p), naive.put(p));
                 break;
             case 10:
-                int k = random.nextInt(3) != 0 ? -1 : near(real.count(0) + 1);
+                int k = random.nextInt(3) != 0 ? -1 : near(naive.letterCount() + 1);
                 due("known(" + k + ")", real.known(k), naive.known(k));
                 break;
             default:
@@ -137,8 +138,8 @@ public final class RandomRunsTest {
     }
 
     private void tellLine() {
-        int x = random.nextInt(3) == 0 ? letterNumber() : real.count(0) - 1;
-        if (random.nextInt(3) > 0 && real.count(0) > 0) {
+        int x = random.nextInt(3) == 0 ? letterNumber() : naive.letterCount() - 1;
+        if (random.nextInt(3) > 0 && naive.letterCount() > 0) {
             copyLine(x);
             return;
         }
@@ -159,19 +160,19 @@ public final class RandomRunsTest {
 
     /** A line of another letter, quoted, now and then otherwise than it was written. */
     private void copyLine(int x) {
-        int y = below(real.count(0));
-        int line = below(real.about(y, 3));
-        int length = Math.max(0, real.told(y, line, 1));
+        int y = below(naive.letterCount());
+        int line = below(naive.about(y, 3));
+        int length = Math.max(0, naive.told(y, line, 1));
         for (int k = 0; k < length; k++) {
             int odd = random.nextInt(14);
             if (odd == 0) {
                 tellWord(1 + below(words));
             }
             if (odd != 1) {
-                tellWord(odd == 2 ? 1 + below(words) : real.told(y, line, 2 + k));
+                tellWord(odd == 2 ? 1 + below(words) : naive.told(y, line, 2 + k));
             }
         }
-        endLine(x, Math.min(5, Math.max(0, real.told(y, line, 0)) + (random.nextInt(8) == 0 ? 0 : 1)));
+        endLine(x, Math.min(5, Math.max(0, naive.told(y, line, 0)) + (random.nextInt(8) == 0 ? 0 : 1)));
     }
 
     private void tellRules() {

@@ -14,7 +14,7 @@ public final class RulesTest {
     }
 
     private static void feeding() {
-        QuotedLetters q = new QuotedLetters();
+        Counted q = new Counted();
         for (int n : new int[] {0, 9, -1, Due.MIN, Due.MAX}) {
             due.is("feed(" + n + ")", q.feed(n, 0), Due.OUTSIDE);
         }
@@ -40,7 +40,7 @@ public final class RulesTest {
     }
 
     private static void good(String text, int clauses, int... rules) {
-        QuotedLetters q = new QuotedLetters();
+        Counted q = new Counted();
         due.is("'" + text + "'", Due.rules(q, text), clauses);
         due.is("'" + text + "': fault", q.fault(), Due.NONE);
         for (int what = 0; what < 5; what++) {
@@ -60,7 +60,7 @@ public final class RulesTest {
     }
 
     private static void bad(String text, int kind, int at) {
-        QuotedLetters q = new QuotedLetters();
+        Counted q = new Counted();
         due.is("'" + text + "'", Due.rules(q, text), -10 - kind);
         due.is("'" + text + "': fault", q.fault(), at);
         due.is("'" + text + "': text is empty then", q.count(9), 0);
@@ -139,7 +139,7 @@ public final class RulesTest {
     }
 
     private static void rulesStayOnFault() {
-        QuotedLetters q = new QuotedLetters();
+        Counted q = new Counted();
         Due.rules(q, "near 1;fit 20;trust no;keep 3;deep 2;");
         due.is("fault", Due.rules(q, "near 2;fit 30;trust yes;keep 4;deep"), -11);
         due.is("its byte", q.fault(), 35);
@@ -158,7 +158,7 @@ public final class RulesTest {
     }
 
     private static void ruleRefusals() {
-        QuotedLetters q = new QuotedLetters();
+        Counted q = new Counted();
         due.is("rule(-1)", q.rule(-1), Due.OUTSIDE);
         due.is("rule(5)", q.rule(5), Due.OUTSIDE);
         due.is("rule(MIN)", q.rule(Due.MIN), Due.OUTSIDE);

@@ -15,7 +15,7 @@ public final class SeekTest {
     }
 
     private static void signs() {
-        QuotedLetters q = new QuotedLetters();
+        Counted q = new Counted();
         due.is("clear of none", q.clear(), 0);
         due.is("sign(-1)", q.sign(-1), Due.OUTSIDE);
         due.is("sign(64)", q.sign(64), Due.OUTSIDE);
@@ -30,8 +30,8 @@ public final class SeekTest {
         due.is("count(8)", q.count(8), 0);
     }
 
-    private static QuotedLetters some() {
-        QuotedLetters q = new QuotedLetters();
+    private static Counted some() {
+        Counted q = new Counted();
         q.letter(3, 0, Due.NONE);
         Due.tell(q, 0, 0, 1, 2, 1, 2, 3);
         Due.tell(q, 0, 2, 1, 3);
@@ -43,7 +43,7 @@ public final class SeekTest {
         return q;
     }
 
-    private static void seekIs(String name, QuotedLetters q, int writer, int where, int... places) {
+    private static void seekIs(String name, Counted q, int writer, int where, int... places) {
         due.is(name + ": how many", q.seek(writer, where, Due.NONE), places.length);
         for (int i = 0; i < places.length; i++) {
             due.is(name + ": place " + i, q.seek(writer, where, i), places[i]);
@@ -53,7 +53,7 @@ public final class SeekTest {
     }
 
     private static void places() {
-        QuotedLetters q = some();
+        Counted q = some();
         q.sign(1);
         seekIs("a word, each line once", q, Due.NONE, 0, 0, 1, 14, 15, 16);
         seekIs("own", q, Due.NONE, 1, 0, 15, 16);
@@ -84,7 +84,7 @@ public final class SeekTest {
     }
 
     private static void seekRefusals() {
-        QuotedLetters q = some();
+        Counted q = some();
         due.is("empty", q.seek(Due.NONE, 0, Due.NONE), Due.NOT);
         due.is("outside ahead of not", q.seek(-2, 0, 0), Due.OUTSIDE);
         due.is("outside", q.seek(10, 0, 0), Due.OUTSIDE);
@@ -93,7 +93,7 @@ public final class SeekTest {
     }
 
     private static void stillThere() {
-        QuotedLetters q = new QuotedLetters();
+        Counted q = new Counted();
         due.is("unknown", q.still(0), Due.UNKNOWN);
         q.letter(0, 1, Due.NONE);
         Due.tell(q, 0, 0, 1);
@@ -118,7 +118,7 @@ public final class SeekTest {
     }
 
     private static void stillNeedsTheSameText() {
-        QuotedLetters q = new QuotedLetters();
+        Counted q = new Counted();
         Due.rules(q, "near 1;");
         q.letter(0, 1, Due.NONE);
         Due.tell(q, 0, 0, 1, 2);
@@ -137,7 +137,7 @@ public final class SeekTest {
     }
 
     private static void stillAsItWouldBe() {
-        QuotedLetters q = new QuotedLetters();
+        Counted q = new Counted();
         q.letter(0, 1, Due.NONE);
         Due.tell(q, 0, 0, 1);
         q.letter(1, 1, Due.NONE);
@@ -154,7 +154,7 @@ public final class SeekTest {
     }
 
     private static void stillOfTwo() {
-        QuotedLetters q = new QuotedLetters();
+        Counted q = new Counted();
         q.letter(0, 1, Due.NONE);
         Due.tell(q, 0, 0, 1);
         q.letter(1, 1, Due.NONE);
@@ -172,7 +172,7 @@ public final class SeekTest {
     }
 
     private static void stillAsKnown() {
-        QuotedLetters q = new QuotedLetters();
+        Counted q = new Counted();
         q.letter(0, 1, Due.NONE);
         Due.tell(q, 0, 1, 1);
         q.letter(1, 1, Due.NONE);
