@@ -37,7 +37,7 @@ public final class RoomTest {
             q.answer(x - 4, 1, -1);
         }
         int total = 0;
-        for (int round = 0; calls < 512; round++, calls += 4) {
+        for (int round = 0; calls + 6 <= 512; round++, calls += 6) {
             q.take(39 - round % 30);
             total += q.lost(0, 2) + q.still(39 - round % 30) + q.count(4) + q.count(5);
             q.put(39 - round % 30);
