@@ -16,7 +16,7 @@ public final class RefusalsTest {
         notNow();
         fullOnes();
         largeOnes();
-        due.sentence("REFUSALS, of several the first in this order: UNKNOWN, OUTSIDE, NOT, FULL, LARGE");
+        due.sentence("REFUSALS, of several the first in this order");
         unknownAheadOfOutside();
         unknownAheadOfNot();
         unknownAheadOfFull();

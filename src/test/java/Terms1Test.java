@@ -16,6 +16,7 @@ public final class Terms1Test {
         days();
         named();
         fourteenLines();
+        fullLettersSideBySide();
         depths();
         wordsOfTexts();
         takenBack();
@@ -98,6 +99,14 @@ public final class Terms1Test {
         due.is("the last is seen", q.about(39, 5), 1);
         due.is("the last has lines", Due.tell(q, 39, 0, 5), 0);
         due.is("the last is sought", q.sign(5) + q.seek(NONE, 0, 0), 1 + 14 * 39);
+        for (int line = 1; line < 14; line++) {
+            q.line(39, 1);
+        }
+        due.is("its lines are full", q.line(39, 1), Due.FULL);
+        due.is("the places of all", q.seek(NONE, 0, NONE), 1);
+        due.is("the unfound lines of all", q.count(5), 13);
+        due.is("the group of the last", q.group(39), 0);
+        due.is("its row", q.lost(0, 2), 13);
         due.is("the last is taken back", q.take(39), 1);
         due.is("what is taken back makes no room", q.letter(0, NONE, NONE), Due.FULL);
         q.known(0);
@@ -183,6 +192,32 @@ public final class Terms1Test {
         due.is("a line more of the answer", q.line(1, 0), Due.FULL);
         q.letter(0, NONE, NONE);
         due.is("the next letter's first line", q.line(2, 0), 0);
+    }
+
+    /** What is asked of a full letter must not reach into the lines of the next one. */
+    private static void fullLettersSideBySide() {
+        due.sentence("and have up to 14 LINES");
+        Counted q = new Counted();
+        Due.letterOf(q, 0, 21, 22, 23, 24, 25, 26, 27, 28, 29, 30, 31, 32, 33);
+        Due.tell(q, 0, 1, 34);
+        Due.letterOf(q, 1, 1);
+        Due.letterOf(q, 0, 41, 42, 43, 44, 45, 46, 47, 48, 49, 50, 51, 52, 53, 54);
+        Due.letterOf(q, 1, 1);
+        Due.letterOf(q, 2, 1);
+        int[] groups = {0, 1, NONE, 1, NONE};
+        for (int x = 0; x < groups.length; x++) {
+            due.is("group of " + x, q.group(x), groups[x]);
+        }
+        due.is("row of the first", q.lost(0, 2), 1);
+        due.is("row of the second", q.lost(1, 2), 1);
+        due.is("fit of a letter ahead of the line that it would need", q.fit(4, 2), 0);
+        due.is("unfound", q.count(5), 4);
+        q.sign(1);
+        due.is("places", q.seek(NONE, 0, NONE), 3);
+        due.is("the first of them", q.seek(NONE, 0, 0), 14);
+        due.is("the second", q.seek(NONE, 0, 1), 42);
+        due.is("the next letter's line", q.told(0, 14, 0), Due.UNKNOWN);
+        due.is("quoted ones", q.about(0, 4), 1);
     }
 
     private static void depths() {

@@ -8,6 +8,7 @@ public final class Terms2Test {
     public static void main(String[] args) {
         fitOfNone();
         fitOfAll();
+        fitWithALineMore();
         mostPairs();
         eachLineInOnePair();
         pairsOfAllDepths();
@@ -66,6 +67,32 @@ public final class Terms2Test {
         p.answer(38, 0, NONE);
         due.is("of the last two letters", p.fit(39, 38), 14);
         due.is("the other way round", p.fit(38, 39), 0);
+    }
+
+    private static void fitWithALineMore() {
+        due.sentence("FIT of a LETTER y for x: the most pairs of quoted LINES of x and LINES of y");
+        int[][] letters = {{0, 1}, {1, 0}, {0, 39}, {39, 0}, {38, 39}, {20, 19}};
+        Counted q = new Counted();
+        for (int x = 0; x < 40; x++) {
+            q.letter(0, NONE, NONE);
+        }
+        for (int k = 0; k < letters.length; k++) {
+            int x = letters[k][0];
+            int y = letters[k][1];
+            int before = q.fit(x, y);
+            Due.tell(q, x, 1, 10 + k);
+            due.is("a line of " + x + " alone", q.fit(x, y), before);
+            Due.tell(q, y, 0, 10 + k);
+            due.is("then one of " + y, q.fit(x, y), before + 1);
+            Due.tell(q, x, 1, 30 + k);
+            due.is("another of " + x, q.fit(x, y), before + 1);
+            Due.tell(q, y, 0, 30 + k);
+            due.is("then one of " + y, q.fit(x, y), before + 2);
+            Due.tell(q, y, 0, 50);
+            due.is("a third of " + y + " alone", q.fit(x, y), before + 2);
+            Due.tell(q, x, 1, 50);
+            due.is("then one of " + x, q.fit(x, y), before + 3);
+        }
     }
 
     private static void fitIs(String name, int[] quoted, int[] own, int want) {

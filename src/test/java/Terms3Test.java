@@ -24,6 +24,7 @@ public final class Terms3Test {
         mostGroups();
         groupOfOnePiece();
         shortestRow();
+        rowsOfTwoGroups();
         rowOfLongestPieces();
         firstByTexts();
         oneThatEndsAhead();
@@ -354,6 +355,32 @@ public final class Terms3Test {
         rowOf("the least first text would be longer", new int[][] {{2, 1}, {3, 2}, {3, 1}}, 3, 2, 1);
         rowOf("one text more often in one", new int[][] {{1, 1, 1}, {1}, {1, 1}}, 1, 1, 1);
         rowOf("a ring of three", new int[][] {{1, 2}, {2, 3}, {3, 1}}, 1, 2, 3, 1);
+    }
+
+    /** Groups of like shape, asked for by turns, as pieces go and come: each row is found for itself. */
+    private static void rowsOfTwoGroups() {
+        due.sentence("A LOST LETTER for each GROUP");
+        Counted q = new Counted();
+        Due.letterOf(q, 1, 1, 2);
+        Due.letterOf(q, 1, 2, 3);
+        Due.letterOf(q, 1, 12, 13);
+        Due.letterOf(q, 1, 11, 12);
+        Due.letterOf(q, 1, 3, 1);
+        int[] second = {11, 12, 13};
+        for (int round = 0; round < 3; round++) {
+            rowIs("three pieces", q, 1, 2, 3, 1);
+            q.take(4);
+            rowIs("two pieces", q, 1, 2, 3);
+            due.is("the other group", q.lost(1, 2), second.length);
+            for (int i = 0; i < second.length; i++) {
+                due.is("text " + i + " of the other group", q.lostWord(1, i, 0), second[i]);
+            }
+            rowIs("two pieces again", q, 1, 2, 3);
+            q.take(0);
+            rowIs("one piece", q, 2, 3);
+            q.put(0);
+            q.put(4);
+        }
     }
 
     private static void rowOfLongestPieces() {

@@ -29,6 +29,7 @@ public final class Terms4Test {
         stillWhoseOriginItWouldBe();
         stillWereItPutBack();
         stillOfAllLines();
+        stillOfTwoByTurns();
         due.end();
     }
 
@@ -49,6 +50,13 @@ public final class Terms4Test {
             due.is("days do not matter: order(" + i + ")", q.order(i), i);
         }
         due.is("behind the last", q.order(40), NONE);
+        q.take(39);
+        due.is("the last is not seen", q.order(39), NONE);
+        due.is("the last but one", q.order(38), 38);
+        q.put(39);
+        q.take(0);
+        due.is("the first is not seen", q.order(39), NONE);
+        due.is("the last", q.order(38), 39);
     }
 
     private static void orderBehindParents() {
@@ -476,5 +484,21 @@ public final class Terms4Test {
         due.is("none", q.still(0), 0);
         q.answer(0, 0, NONE);
         due.is("by the last letter", q.still(0), 16383);
+    }
+
+    private static void stillOfTwoByTurns() {
+        due.sentence("were it put back");
+        Counted q = new Counted();
+        Due.letterOf(q, 0, 1);
+        Due.letterOf(q, 0, 9, 2);
+        Due.letterOf(q, 1, 1);
+        Due.letterOf(q, 1, 2);
+        q.take(0);
+        q.take(1);
+        for (int round = 0; round < 2; round++) {
+            due.is("of the one", q.still(0), 1);
+            due.is("of the other", q.still(1), 2);
+        }
+        due.is("neither is a parent now", q.about(2, 6) + q.about(3, 6), 2 * NONE);
     }
 }
